@@ -5,6 +5,7 @@ import java.util.List;
 public final class DeriveTreeModel {
     private static final int RUNS = 4000;
     private static final int CALLS = 512;
+    private static final int LAST_CALLS = 16 * 6;
     private static final int LATE_CALLS = 200000;
     private static final int[] ODD = {-1, 16, 64, -16, Integer.MIN_VALUE, Integer.MAX_VALUE};
 
@@ -265,7 +266,7 @@ public final class DeriveTreeModel {
         return got == want;
     }
 
-    /** The state that shows after the last call, the object being free to answer anything later. */
+    /** Asks for the whole state; a run leaves calls for this, since answers after the 512th are free. */
     private static boolean endsAlike(int run, Model m, DeriveTree x) {
         boolean good = true;
         for (int a = 0; a < 16 && good; a++) {
@@ -280,7 +281,7 @@ public final class DeriveTreeModel {
         Model m = new Model();
         DeriveTree x = new DeriveTree();
         int loss = 5 + pick(30);
-        int asked = CALLS - 16 * 6;
+        int asked = CALLS - LAST_CALLS;
         for (int call = 1; call <= asked; call++) {
             int method = pickMethod(loss);
             int a = pickFrom(m);

@@ -4,6 +4,7 @@ import java.lang.reflect.Method;
 import java.lang.reflect.Modifier;
 import java.util.Set;
 import java.util.TreeSet;
+import java.util.function.ToIntFunction;
 
 /** One or more checks for each promise of the document, named by its number. */
 public final class DeriveTreePromises {
@@ -17,13 +18,13 @@ public final class DeriveTreePromises {
         }
     }
 
-    /** Everything that the asking methods tell of an object. */
+    /** What the asking methods tell of an object: few enough calls to ask twice within the 512. */
     private static String state(DeriveTree x) {
         StringBuilder text = new StringBuilder("keys " + x.keys());
         for (int a = 0; a < 16; a++) {
             text.append("; ").append(a).append(": ").append(x.piece(a)).append(' ').append(x.rights(a));
             text.append(' ').append(x.room(a)).append(' ').append(x.descendants(a)).append(" over");
-            for (int b = 0; b < 16; b++) {
+            for (int b = 0; a < 5 && b < 5; b++) {
                 if (x.descends(a, b) == 1) {
                     text.append(' ').append(b);
                 }
@@ -309,21 +310,54 @@ public final class DeriveTreePromises {
         due("9: piece(3)", x.piece(3), 1);
     }
 
+    /** Neither an older piece nor a newer one of other units keeps a mark up. */
+    private static void promise9RoomBesideOtherPieces() {
+        DeriveTree x = new DeriveTree();
+        x.split(0, 1, 8);
+        x.split(0, 2, 8);
+        x.split(0, 3, 8);
+        x.split(1, 4, 4);
+        x.split(2, 5, 4);
+        x.split(3, 6, 4);
+        due("9: room(2)", x.room(2), 4);
+        x.delete(5);
+        due("9: room(2), newer pieces lying before and behind it", x.room(2), 8);
+        due("9: room(1)", x.room(1), 4);
+        due("9: room(3)", x.room(3), 4);
+        x.revoke(3);
+        due("9: room(3)", x.room(3), 8);
+        due("9: room(1)", x.room(1), 4);
+    }
+
     /** Places inside the object are used again, which must not make a new piece look older. */
     private static void promise9RoomAfterManyPieces() {
         DeriveTree x = new DeriveTree();
-        for (int turn = 0; turn < 60; turn++) {
+        for (int turn = 0; turn < 40; turn++) {
             x.split(0, 1, 64);
             x.split(1, 2, 64);
             x.delete(1);
             due("9: room(0) in turn " + turn, x.room(0), 0);
             due("9: split(2, 1, 32) in turn " + turn, x.split(2, 1, 32), 0);
+            x.revoke(1);
             due("9: room(2) in turn " + turn, x.room(2), 32);
             x.delete(1);
             due("9: room(2) in turn " + turn, x.room(2), 64);
             x.delete(2);
         }
         due("9: room(0) after the turns", x.room(0), 64);
+    }
+
+    private static void promise9RoomOfSixteenPieces() {
+        DeriveTree x = new DeriveTree();
+        for (int slot = 1; slot < 16; slot++) {
+            due("9: split(0, " + slot + ", 4)", x.split(0, slot, 4), 4 * slot - 4);
+        }
+        for (int slot = 1; slot < 16; slot++) {
+            due("9: piece(" + slot + ") of sixteen", x.piece(slot), 100 * (4 * slot - 4) + 4);
+            due("9: room(" + slot + ") of sixteen", x.room(slot), 4);
+        }
+        due("9: piece(0) of sixteen", x.piece(0), 64);
+        due("9: room(0) of sixteen", x.room(0), 4);
     }
 
     private static void promise10Descends() {
@@ -395,36 +429,43 @@ public final class DeriveTreePromises {
         due("13: descendants(" + slot + ")", x.descendants(slot), -1);
     }
 
-    private static void refusedCallsChangeNothing() {
+    private static void refused(String name, ToIntFunction<DeriveTree> call) {
         DeriveTree x = family();
-        String before = state(x);
+        due(name, call.applyAsInt(x), -1);
+        due("state after " + name, state(x), state(family()));
+    }
+
+    private static void refusedCallsChangeNothing() {
         for (int slot : NO_SLOTS) {
-            refusedSource(x, slot);
-            refusedTarget(x, slot);
+            refusedSource(slot);
+            refusedTarget(slot);
         }
-        refusedSource(x, 5);
+        refusedSource(5);
+        refusedSource(9);
         for (int held = 0; held < 5; held++) {
-            refusedTarget(x, held);
+            refusedTarget(held);
         }
         for (int size : new int[] {0, -1, 33, 64, 65, Integer.MIN_VALUE, Integer.MAX_VALUE}) {
-            due("split(0, 9, " + size + ")", x.split(0, 9, size), -1);
+            refused("split(0, 9, " + size + ")", x -> x.split(0, 9, size));
         }
-        due("state after refused calls", state(x), before);
     }
 
-    private static void refusedSource(DeriveTree x, int from) {
-        due("split(" + from + ", 9, 1)", x.split(from, 9, 1), -1);
-        due("copy(" + from + ", 9, 7)", x.copy(from, 9, 7), -1);
-        due("move(" + from + ", 9)", x.move(from, 9), -1);
-        due("delete(" + from + ")", x.delete(from), -1);
-        due("revoke(" + from + ")", x.revoke(from), -1);
+    private static void refusedSource(int from) {
+        for (int to : new int[] {9, 0, from}) {
+            refused("split(" + from + ", " + to + ", 1)", x -> x.split(from, to, 1));
+            refused("copy(" + from + ", " + to + ", 7)", x -> x.copy(from, to, 7));
+            refused("move(" + from + ", " + to + ")", x -> x.move(from, to));
+        }
+        refused("delete(" + from + ")", x -> x.delete(from));
+        refused("revoke(" + from + ")", x -> x.revoke(from));
     }
 
-    private static void refusedTarget(DeriveTree x, int to) {
-        for (int from = 0; from < 5; from++) {
-            due("split(" + from + ", " + to + ", 1)", x.split(from, to, 1), -1);
-            due("copy(" + from + ", " + to + ", 7)", x.copy(from, to, 7), -1);
-            due("move(" + from + ", " + to + ")", x.move(from, to), -1);
+    private static void refusedTarget(int to) {
+        for (int held = 0; held < 5; held++) {
+            int from = held;
+            refused("split(" + from + ", " + to + ", 1)", x -> x.split(from, to, 1));
+            refused("copy(" + from + ", " + to + ", 7)", x -> x.copy(from, to, 7));
+            refused("move(" + from + ", " + to + ")", x -> x.move(from, to));
         }
     }
 
@@ -452,7 +493,9 @@ public final class DeriveTreePromises {
         promise9Room();
         promise9RoomWhileACopyHoldsThePiece();
         promise9RoomOfPiecesOfTheSameUnits();
+        promise9RoomBesideOtherPieces();
         promise9RoomAfterManyPieces();
+        promise9RoomOfSixteenPieces();
         promise10Descends();
         promise11Descendants();
         promise12Keys();
