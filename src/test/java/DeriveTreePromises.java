@@ -44,15 +44,17 @@ public final class DeriveTreePromises {
     }
 
     private static void face() {
-        Set<String> names = new TreeSet<>();
+        Set<String> methods = new TreeSet<>();
         for (Method m : DeriveTree.class.getDeclaredMethods()) {
             if (!Modifier.isPrivate(m.getModifiers())) {
-                names.add(m.getReturnType() + " " + m.getName() + " " + m.getParameterCount());
+                methods.add(m.toString().replace("DeriveTree.", ""));
             }
         }
-        Set<String> want = Set.of("int split 3", "int copy 3", "int move 2", "int delete 1", "int revoke 1",
-            "int piece 1", "int rights 1", "int room 1", "int descends 2", "int descendants 1", "int keys 0");
-        due("the methods", names, new TreeSet<>(want));
+        Set<String> want = Set.of("public int split(int,int,int)", "public int copy(int,int,int)",
+            "public int move(int,int)", "public int delete(int)", "public int revoke(int)",
+            "public int piece(int)", "public int rights(int)", "public int room(int)",
+            "public int descends(int,int)", "public int descendants(int)", "public int keys()");
+        due("the methods", methods, new TreeSet<>(want));
         for (Field f : DeriveTree.class.getDeclaredFields()) {
             due("private " + f.getName(), Modifier.isPrivate(f.getModifiers()), true);
         }
@@ -60,7 +62,7 @@ public final class DeriveTreePromises {
         due("number of constructors", made.length, 1);
         due("public constructor", Modifier.isPublic(made[0].getModifiers()), true);
         due("arguments of the constructor", made[0].getParameterCount(), 0);
-        due("final class", Modifier.isFinal(DeriveTree.class.getModifiers()), true);
+        due("the class", Modifier.toString(DeriveTree.class.getModifiers()), "public final");
     }
 
     private static void promise1NewObject() {
@@ -475,8 +477,25 @@ public final class DeriveTreePromises {
         due("state asked again", state(x), before);
     }
 
+    /** The example of README.md, call by call. */
+    private static void readmeExample() {
+        DeriveTree tree = new DeriveTree();
+        due("README: split(0, 1, 16)", tree.split(0, 1, 16), 0);
+        due("README: copy(1, 2, 5)", tree.copy(1, 2, 5), 5);
+        due("README: descends(0, 2)", tree.descends(0, 2), 1);
+        due("README: piece(2)", tree.piece(2), 16);
+        due("README: room(0)", tree.room(0), 48);
+        due("README: move(2, 9)", tree.move(2, 9), 0);
+        due("README: delete(1)", tree.delete(1), 1);
+        due("README: room(0) after delete", tree.room(0), 48);
+        due("README: revoke(0)", tree.revoke(0), 1);
+        due("README: room(0) after revoke", tree.room(0), 64);
+        due("README: rights(9)", tree.rights(9), -1);
+    }
+
     public static void main(String[] args) {
         face();
+        readmeExample();
         promise1NewObject();
         promise2Split();
         promise2SplitKeepsRights();
